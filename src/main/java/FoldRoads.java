@@ -1957,7 +1957,7 @@ public final class FoldRoads {
             addName(world.valley.nameAt(SPOT_NAMES + world.state.place.get(w)));
             if (world.isGoing(w)) {
                 addText(" in ");
-                addDigits(world.state.left.get(w));
+                addDigit(world.state.left.get(w));
             }
             if (isLost) {
                 addText(" lost");
@@ -1984,11 +1984,9 @@ public final class FoldRoads {
             }
         }
 
-        private void addDigits(int n) {
-            if (n > 9) {
-                addByte('0' + n / 10 % 10);
-            }
-            addByte('0' + n % 10);
+        /** One is enough: no FOLD is deeper than 9, no PACE below 1. */
+        private void addDigit(int n) {
+            addByte('0' + n);
         }
     }
 }

@@ -148,6 +148,11 @@ public final class BookTest {
         refused("mood joy;", 1, 5);
         refused("mood 0;", 1, 5);
         refused("mood ann;", 1, 5);
+        refused("mood breath;", 1, 5);
+        refused("mood goes;", 1, 5);
+        refused("mood;", 1, 4);
+        refused("cream;", 1, 5);
+        refused("ann tells;", 1, 9);
         refused("slip 0;", 1, 6);
         refused("hour;", 1, 4);
         refused("hour 1?;", 1, 6);

@@ -201,6 +201,9 @@ public final class RoadsTest {
         x.slip(1, 1);
         CHECK.due("slipped", x.meet(0, 1), -1);
         x.walk(2, 0);
+        x.undo();
+        x.undo();
+        x.walk(2, 0);
         CHECK.due("one is going", x.meet(0, 2), -1);
         CHECK.due("the other one is", x.meet(2, 0), -1);
         CHECK.due("meet(-1, 0)", x.meet(-1, 0), -1);
@@ -239,6 +242,7 @@ public final class RoadsTest {
         innsAre(line, 6, 1, 1);
         innsAre(new FoldRoads(), 0, 0, 0);
         innsAre(Texts.of("spot a inn;"), 0, 0, 0);
+        innsAre(Texts.of("spot a;spot b;spot c;spot d;spot e;spot f;spot g;spot h;"), 99, 8, 255);
     }
 
     private static void came() {
@@ -271,6 +275,18 @@ public final class RoadsTest {
 
     private static void ask() {
         // a, b, c are 2 from h; a and b 1 from one another; d is alone
+        FoldRoads v = Texts.of("spot a;spot b;spot c;spot d;fold a b 3 laugh;fold a c 1 laugh;fold b c 3 laugh;"
+                + "fold a d 2 worry;fold c d 2 worry;");
+        CHECK.due("3 from b", Texts.came(v, 1, 3), 5);
+        CHECK.due("a tells a and c apart", v.ask(), 0);
+        v.cream(3);
+        CHECK.due("2 from d", Texts.came(v, 3, 2), 4);
+        CHECK.due("3 and 3 again", Texts.came(v, 1, 3), 5);
+        v.slip(0, 30);
+        v.slip(1, 30);
+        v.slip(3, 30);
+        CHECK.due("0 from a", Texts.came(v, 0, 0), 1);
+        CHECK.due("whence one can not come is told apart, too", v.ask(), 0);
         FoldRoads x = Texts.of("spot h;spot d;spot c;spot b;spot a;fold h a 2 laugh;fold h b 2 laugh;fold h c 2 worry;"
                 + "fold a b 1 frown;");
         CHECK.due("2 from h", Texts.came(x, 0, 2), 28);

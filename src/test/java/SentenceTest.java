@@ -121,6 +121,12 @@ public final class SentenceTest {
         CHECK.due("and of what is undone", bits(x), 1);
         Texts.sentence(x, "lost");
         CHECK.due("another one", bits(x), 8);
+        String[] spoiled = {"((not going", "not not", "going and ( housed or", "going or not", "(((going) or at a"};
+        for (String text : spoiled) {
+            CHECK.due("spoiled '" + text + "'", Texts.sentence(x, text) < 0, true);
+            CHECK.due("read afresh", Texts.sentence(x, "going or not not not not not (at a)"), 8);
+            CHECK.due("said afresh", bits(x), 15);
+        }
         x.valley();
         CHECK.due("none behind a new valley", x.said(-1), -1);
     }
@@ -178,7 +184,8 @@ public final class SentenceTest {
 
     private static void tooMany() {
         String twenty = "going" + Texts.times(" or lost", 19);
-        CHECK.due("20 ONES", Texts.sentence(five(), twenty), 20);
+        saidIs(twenty, 20, 9);
+        saidIs("going" + Texts.times(" and lost", 18) + " or at a", 20, 16);
         refused(twenty + " and at a", 4, twenty.length() + 5);
         refused(twenty + " and not", 4, twenty.length() + 5);
         refused(twenty + " and (", 4, twenty.length() + 5);

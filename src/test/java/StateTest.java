@@ -118,6 +118,9 @@ public final class StateTest {
         nowIs(x, "both there", 3, 2, 0, 0, 3, 0, 5, 2);
         x.hours(60);
         nowIs(x, "nobody goes on", 63, 2, 0, 0, 3, 0, 5, 2);
+        x.slip(0, 1);
+        x.slip(3, 30);
+        CHECK.due("slipped for 1 and for 30", x.now(3), 9);
         CHECK.due("now(8)", x.now(8), -1);
         CHECK.due("now(-1)", x.now(-1), -1);
     }

@@ -184,6 +184,8 @@ public final class TagAndDrawsTest {
         CHECK.due("odds(3)", x.odds(3, 1, 1), -1);
         CHECK.due("0 seeds", x.odds(0, 0, 1), -1);
         CHECK.due("31 seeds", x.odds(0, 31, 1), -1);
+        CHECK.due("1 seed", x.odds(0, 1, 1) >= 0, true);
+        CHECK.due("30 seeds", x.odds(0, 30, 1) >= 0, true);
         x.walk(0, 0);
         x.mood(1);
         String before = Texts.all(x);

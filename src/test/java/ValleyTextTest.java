@@ -110,6 +110,12 @@ public final class ValleyTextTest {
         CHECK.due("all anew", Texts.all(x), fresh);
         CHECK.due("no sentence", x.said(-1), -1);
         CHECK.due("nothing to undo", x.undo(), -1);
+        x.walk(0, 0);
+        x.walk(1, 3);
+        Texts.valley(x, "spot a;spot b;walker w a 1;walker v b 1;");
+        CHECK.due("nobody is going", x.now(2), 0);
+        CHECK.due("no inns of the old one", x.spot(0, 0), 0);
+        CHECK.due("both are lost", x.now(5), 3);
     }
 
     private static void oldStays() {
@@ -176,6 +182,13 @@ public final class ValleyTextTest {
         refused(TWO + "fold a b laugh;", 1, 23);
         refused(TWO + "fold a b 3 3;", 1, 25);
         refused(TWO + "fold a b 3 inn;", 1, 25);
+        refused(TWO + "fold a b 3 breath;", 1, 25);
+        refused(TWO + "fold a b 3 goes;", 1, 25);
+        refused(TWO + "fold a b 3;", 1, 24);
+        refused(TWO + "fold a b;", 1, 22);
+        refused(TWO + "fold a;", 1, 20);
+        refused(TWO + "walker w;", 1, 22);
+        refused(TWO + "spot;", 1, 18);
         refused(TWO + "fold a b 3 a;", 1, 25);
         refused(TWO + "fold a b 3 laugh laugh;", 1, 31);
         refused(TWO + "fold a 3;", 1, 21);
