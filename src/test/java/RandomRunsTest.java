@@ -363,6 +363,10 @@ public final class RandomRunsTest {
             case 8: call("slip", number(folds), number(10)); break;
             case 9: call("mood", number(3)); break;
             case 10:
+                for (int i = 0; i < 6 && oneIn(2); i++) {
+                    call("hours", 60 - below(2));
+                }
+                break;
             case 11: call("hours", oneIn(10) ? number(62) : 1 + below(5)); break;
             case 13:
             case 14:
