@@ -1810,7 +1810,7 @@ public final class FoldRoads {
         /** The first THING of those by which the rest is least FAR, with which one should begin. */
         private int firstOf(Valley valley, int part, int here) {
             int first = 0;
-            int least = Integer.MAX_VALUE;
+            int least = NOWHERE * (MOST_THINGS + 1);
             for (int t = 0; t < valley.things; t++) {
                 if ((part >> t & 1) == 1) {
                     int inAll = hoursByFirst(valley, part, here, t);

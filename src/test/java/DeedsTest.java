@@ -7,6 +7,7 @@ public final class DeedsTest {
 
     public static void main(String[] args) {
         walk();
+        leastAndMostBreath();
         learn();
         tell();
         rest();
@@ -17,6 +18,7 @@ public final class DeedsTest {
         lastHours();
         undo();
         undoOfEach();
+        whatIsNotUndone();
         CHECK.finish();
     }
 
@@ -56,6 +58,42 @@ public final class DeedsTest {
         }
         CHECK.due("along both ways", x.walk(2, 0), 0);
         CHECK.due("to a", Texts.walker(x, 2, 0), 0);
+    }
+
+    private static void leastAndMostBreath() {
+        FoldRoads x = Texts.of("spot a;spot b;spot c;fold a b 9 laugh;fold b c 4 worry;fold a c 1 frown;"
+                + "walker p a 1;walker q a 5;breath 40;");
+        for (int i = 0; i < 4; i++) {
+            CHECK.due("nine hours", x.walk(0, 0), 0);
+            x.hours(9);
+        }
+        CHECK.due("36 and 9 is more than 40", x.walk(0, 0), 4);
+        x.walk(1, 0);
+        CHECK.due("36 and 1", x.walk(0, 2), 0);
+        x.hours(2);
+        CHECK.due("37 and 4 is more than 40", x.walk(0, 1), 4);
+        x.mood(1);
+        CHECK.due("37 and 3 is 40", x.walk(0, 1), 0);
+        x.hours(3);
+        CHECK.due("40 and 9", x.walk(0, 0), 4);
+        CHECK.due("40 tired", Texts.walker(x, 0, 4), 40);
+        x.cream(0);
+        CHECK.due("40 and 1", x.walk(0, 0), 4);
+        FoldRoads y = Texts.of("spot a;spot b;fold a b 3 laugh;walker p a 1;walker q a 2;breath 2;");
+        CHECK.due("3 is more than 2", y.walk(0, 0), 4);
+        CHECK.due("3 by 2, cut up, is 2", y.walk(1, 0), 0);
+        y.mood(0);
+        CHECK.due("2 is not", y.walk(0, 0), 0);
+        FoldRoads z = Texts.of("spot a;spot b;fold a b 9 laugh;walker p a 1;walker q a 3;");
+        CHECK.due("9 of the 12 without", z.walk(0, 0), 0);
+        CHECK.due("3 of the 12", z.walk(1, 0), 0);
+        z.hours(9);
+        CHECK.due("9 and 9", z.walk(0, 0), 4);
+        for (int i = 2; i <= 4; i++) {
+            CHECK.due("3 times " + i, z.walk(1, 0), 0);
+            z.hours(3);
+        }
+        CHECK.due("12 and 3", z.walk(1, 0), 4);
     }
 
     private static void learn() {
@@ -231,47 +269,63 @@ public final class DeedsTest {
         x.rest(0);
         x.hours(0);
         CHECK.due("what was not done", x.undo(), -1);
-        String[] all = new String[12];
+        int[] moods = new int[12];
         for (int i = 0; i < 11; i++) {
-            all[i] = Texts.all(x);
+            moods[i] = x.now(1);
             x.mood(i % 3);
         }
-        all[11] = Texts.all(x);
         CHECK.due("mood as it is", x.mood(1), 1);
         for (int i = 7; i >= 0; i--) {
             CHECK.due("undo, more: " + i, x.undo(), i);
-            CHECK.due("all " + i, Texts.all(x), all[i + 3]);
+            CHECK.due("mood " + i, x.now(1), moods[i + 3]);
         }
+        String before = Texts.all(x);
         CHECK.due("8 at most", x.undo(), -1);
-        nothingChanges(x, all[3], "an undo of none");
+        nothingChanges(x, before, "an undo of none");
         x.mood(1);
         CHECK.due("one behind", x.undo(), 0);
-        nothingChanges(x, all[3], "a mood undone");
+        nothingChanges(x, before, "a mood undone");
+        for (int i = 0; i < 8; i++) {
+            x.mood(i % 3);
+        }
+        for (int i = 7; i >= 0; i--) {
+            CHECK.due("8 just, more: " + i, x.undo(), i);
+        }
+        nothingChanges(x, before, "8 moods undone");
     }
 
     private static void undoOfEach() {
-        FoldRoads x = Texts.of(THREE);
-        x.learn(0, 0);
-        String[] all = new String[9];
-        for (int i = 0; i < 8; i++) {
-            all[i] = Texts.all(x);
-            switch (i) {
-                case 0: CHECK.due("tell", x.tell(0, 1), 0); break;
-                case 1: CHECK.due("walk", x.walk(0, 0), 0); break;
-                case 2: CHECK.due("hours", x.hours(3), 3); break;
-                case 3: CHECK.due("rest", x.rest(0), 0); break;
-                case 4: CHECK.due("cream", x.cream(2), 0); break;
-                case 5: CHECK.due("slip", x.slip(2, 7), 0); break;
-                case 6: CHECK.due("drawn", x.drawn(9, 9), 9); break;
-                default: CHECK.due("book", Texts.book(x, "hour 2;cream 0;cream 0;", 1), 2); break;
+        for (int last = 0; last < 8; last++) {
+            FoldRoads x = Texts.of(THREE);
+            x.learn(0, 0);
+            String before = "";
+            for (int i = 0; i <= last; i++) {
+                before = i == last ? Texts.all(x) : "";
+                deedOfEachKind(x, i);
             }
+            Texts.sentence(x, "number = 1 or number = 2");
+            CHECK.due("it changes something " + last, Texts.all(x).equals(before), false);
+            CHECK.due("undo " + last, x.undo(), Math.min(last + 1, 7));
+            CHECK.due("all behind undo " + last, Texts.all(x), before);
+            CHECK.due("the sentence stays", x.said(-1), 2);
         }
-        Texts.sentence(x, "number = 1 or number = 2");
-        for (int i = 7; i >= 0; i--) {
-            CHECK.due("undo " + i, x.undo(), i);
-            CHECK.due("all " + i, Texts.all(x), all[i]);
+    }
+
+    private static void deedOfEachKind(FoldRoads x, int kind) {
+        switch (kind) {
+            case 0: CHECK.due("tell", x.tell(0, 1), 0); break;
+            case 1: CHECK.due("walk", x.walk(0, 0), 0); break;
+            case 2: CHECK.due("hours", x.hours(3), 3); break;
+            case 3: CHECK.due("rest", x.rest(0), 0); break;
+            case 4: CHECK.due("cream", x.cream(2), 0); break;
+            case 5: CHECK.due("slip", x.slip(2, 7), 0); break;
+            case 6: CHECK.due("drawn", x.drawn(9, 9), 9); break;
+            default: CHECK.due("book", Texts.book(x, "hour 2;cream 0;cream 0;", 1), 2); break;
         }
-        CHECK.due("the sentence stays", x.said(-1), 2);
+    }
+
+    private static void whatIsNotUndone() {
+        FoldRoads x = Texts.of(THREE);
         x.mood(0);
         Texts.book(x, "cream 9;hour 1;", 1);
         Texts.book(x, "hour 1;", 0);

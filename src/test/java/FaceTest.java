@@ -64,7 +64,7 @@ public final class FaceTest {
         }
         methods.sort((a, b) -> a.getName().compareTo(b.getName()));
         FoldRoads x = random.nextInt(3) == 0 ? new FoldRoads() : Texts.of(Texts.FACE);
-        for (int i = 0; i < 512; i++) {
+        for (int i = 0; i < 490; i++) {
             Method m = methods.get(random.nextInt(methods.size()));
             Object[] args = new Object[m.getParameterCount()];
             for (int k = 0; k < args.length; k++) {

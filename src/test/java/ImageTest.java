@@ -5,6 +5,7 @@ public final class ImageTest {
     public static void main(String[] args) {
         places();
         keepsAll();
+        keepsTheValley();
         keepsTheSentence();
         leavesWhatWasTold();
         CHECK.finish();
@@ -46,6 +47,14 @@ public final class ImageTest {
         CHECK.due("restore(1)", x.restore(1), true);
         CHECK.due("all as second", Texts.all(x), second);
         CHECK.due("tag", Texts.tag(x, 1), "bob to brow in 2");
+    }
+
+    private static void keepsTheValley() {
+        FoldRoads x = Texts.of(Texts.FACE);
+        x.walk(0, 0);
+        x.hours(1);
+        String first = Texts.all(x);
+        x.image(0);
         Texts.valley(x, "spot nose;walker cid nose 3;breath 3;");
         CHECK.due("another valley", x.count(0), 1);
         String third = Texts.all(x);
@@ -60,7 +69,7 @@ public final class ImageTest {
         CHECK.due("as when told anew", Texts.all(x), third);
         CHECK.due("names of the old valley are free", Texts.valley(x, "spot bob;thing ann bob;"), 2);
         x.restore(1);
-        CHECK.due("names of the image are not", Texts.book(x, "ann goes 0;bob goes 3;", 0), -1);
+        CHECK.due("names of the image are not", Texts.book(x, "hour 1;ann learns war;bob goes 3;", 0), -1);
     }
 
     private static void keepsTheSentence() {

@@ -303,10 +303,10 @@ public final class RandomRunsTest {
     }
 
     private void lookAround() {
-        spots = program.count(0);
-        folds = program.count(1);
-        things = program.count(2);
-        walkers = program.count(3);
+        spots = model.count(0);
+        folds = model.count(1);
+        things = model.count(2);
+        walkers = model.count(3);
     }
 
     /** A deed that can well be done, as a walker stands now. */
@@ -315,9 +315,9 @@ public final class RandomRunsTest {
             return;
         }
         int w = below(walkers);
-        int s = program.walker(w, 0);
-        int roads = program.spot(s, 2);
-        int others = program.spot(s, 3);
+        int s = model.walker(w, 0);
+        int roads = model.spot(s, 2);
+        int others = model.spot(s, 3);
         int f = below(12);
         for (int i = 0; i < 12 && (roads >> f & 1) == 0; i++) {
             f = (f + 1) % 12;
@@ -331,7 +331,7 @@ public final class RandomRunsTest {
             case 1:
             case 2: call("tell", w, x); break;
             case 3: call("slip", f, 1 + below(8)); break;
-            case 4: call("learn", w, Math.min(5, Integer.numberOfTrailingZeros(program.spot(s, 1)))); break;
+            case 4: call("learn", w, Math.min(5, Integer.numberOfTrailingZeros(model.spot(s, 1)))); break;
             default: call("walk", w, f); break;
         }
     }

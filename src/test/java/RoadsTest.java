@@ -92,6 +92,12 @@ public final class RoadsTest {
         wayIs(x, 0, 3, 2, 0, 3);
         wayIs(x, 1, 0, 2, 2, 1);
         CHECK.due("from e", x.way(2, 0), -1);
+        x.slip(0, 9);
+        wayIs(x, 0, 3, 2, 1, 2);
+        wayIs(x, 1, 0, 2, 2, 1);
+        x.undo();
+        x.slip(2, 9);
+        wayIs(x, 0, 3, 2, 0, 3);
         FoldRoads fewest = Texts.of("spot a;spot b;spot c;fold a b 2 laugh;fold b c 2 laugh;fold a c 4 laugh;"
                 + "walker p a 1;walker q a 2;walker r a 3;");
         wayIs(fewest, 0, 2, 4, 2);

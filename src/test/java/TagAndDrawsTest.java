@@ -11,6 +11,7 @@ public final class TagAndDrawsTest {
         tag();
         byteAt();
         drawnMoods();
+        drawnWraps();
         drawnDeeds();
         drawnAsToldStepByStep();
         drawnEdges();
@@ -94,6 +95,25 @@ public final class TagAndDrawsTest {
         CHECK.due("64", x.now(0), 64);
     }
 
+    /** Where nobody is, an HOUR is one draw of 20; the products go far beyond an int. */
+    private static void drawnWraps() {
+        for (int seed : new int[] {Integer.MIN_VALUE, Integer.MIN_VALUE + 1, -1, 0, 1, Integer.MAX_VALUE, 1 << 30}) {
+            FoldRoads x = Texts.of("spot a;");
+            long[] at = {seed & 0xffffffffL};
+            for (int n = 1; n <= 40; n++) {
+                int mood = FoldRoads.NONE;
+                at[0] = seed & 0xffffffffL;
+                for (int i = 0; i < n; i++) {
+                    int kind = next(at, 20);
+                    mood = kind < 3 ? kind : mood;
+                }
+                CHECK.due("hours by seed " + seed, x.drawn(n, seed), n);
+                CHECK.due("mood behind " + n + " hours by seed " + seed, x.now(1), mood);
+                x.undo();
+            }
+        }
+    }
+
     private static void drawnDeeds() {
         // seed 2: a draw of 4 is 1, then of 1 fold 0 (7 % 1), then of 20: 13
         FoldRoads x = Texts.of("spot a;spot b;fold a b 3 laugh;walker w a 1;");
@@ -124,14 +144,14 @@ public final class TagAndDrawsTest {
     }
 
     /** The same draws, each deed done by a call of its own. */
-    private static void step(FoldRoads x, long[] seed) {
-        for (int w = 0; w < x.count(3); w++) {
+    private static void step(FoldRoads x, long[] seed, int folds, int things, int walkers) {
+        for (int w = 0; w < walkers; w++) {
             if (x.walker(w, 2) == FoldRoads.NONE) {
                 int deed = next(seed, 4);
-                if (deed < 2 && x.count(1) > 0) {
-                    x.walk(w, next(seed, x.count(1)));
-                } else if (deed == 2 && x.count(2) > 0) {
-                    x.learn(w, next(seed, x.count(2)));
+                if (deed < 2 && folds > 0) {
+                    x.walk(w, next(seed, folds));
+                } else if (deed == 2 && things > 0) {
+                    x.learn(w, next(seed, things));
                 } else if (deed == 3) {
                     x.rest(w);
                 }
@@ -154,11 +174,14 @@ public final class TagAndDrawsTest {
             int seed = random.nextInt();
             FoldRoads one = Texts.of(valleys[i % valleys.length]);
             FoldRoads other = Texts.of(valleys[i % valleys.length]);
-            int n = 1 + random.nextInt(60);
+            int n = 1 + random.nextInt(40);
             CHECK.due("drawn " + i, one.drawn(n, seed), n);
             long[] at = {seed & 0xffffffffL};
+            int folds = other.count(1);
+            int things = other.count(2);
+            int walkers = other.count(3);
             for (int k = 0; k < n; k++) {
-                step(other, at);
+                step(other, at, folds, things, walkers);
             }
             CHECK.due("all by seed " + seed, Texts.all(one), Texts.all(other));
         }
@@ -202,26 +225,43 @@ public final class TagAndDrawsTest {
 
     private static void oddsAsCounted() {
         for (int seed = -40; seed < 40; seed += 7) {
-            for (int w = 0; w < 3; w++) {
-                int many = 0;
-                for (int i = 0; i < 9; i++) {
-                    FoldRoads y = oddsStart();
-                    int known = y.walker(w, 5);
-                    y.drawn(20, seed + i);
-                    many += y.walker(w, 5) != known ? 1 : 0;
-                }
-                CHECK.due("odds(" + w + ", 9, " + seed + ")", oddsStart().odds(w, 9, seed), many);
-            }
+            oddsAre(seed, 9, 2);
         }
-        FoldRoads late = oddsStart();
+        // seeds beyond the greatest int go on from the least
+        for (int n = 1; n < 9; n++) {
+            oddsAre(Integer.MAX_VALUE - 3, n, 2);
+        }
+        oddsAre(5, 30, 2);
+        oddsAre(5, 1, 2);
+        // at 390 ten hours are left of twenty, at 399 one
+        oddsAre(8, 9, 390);
+        oddsAre(8, 9, 399);
+        FoldRoads late = oddsStart(2);
         for (int i = 0; i < 7; i++) {
             late.hours(60);
         }
         CHECK.due("no hours left", late.odds(1, 30, 1), 0);
     }
 
-    private static FoldRoads oddsStart() {
+    private static void oddsAre(int seed, int n, int hour) {
+        for (int w = 0; w < 3; w++) {
+            int many = 0;
+            for (int i = 0; i < n; i++) {
+                FoldRoads y = oddsStart(hour);
+                int known = y.walker(w, 5);
+                y.drawn(20, seed + i);
+                many += y.walker(w, 5) != known ? 1 : 0;
+            }
+            CHECK.due("odds(" + w + ", " + n + ", " + seed + ") at " + hour, oddsStart(hour).odds(w, n, seed), many);
+        }
+    }
+
+    private static FoldRoads oddsStart(int hour) {
         FoldRoads x = Texts.of(ROUND);
+        while (x.now(0) + 60 < hour) {
+            x.hours(60);
+        }
+        x.hours(hour - 2 - x.now(0));
         x.learn(0, 2);
         x.walk(1, 1);
         x.hours(2);

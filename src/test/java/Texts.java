@@ -98,6 +98,22 @@ final class Texts {
         return all.toString();
     }
 
+    /** All that deeds and hours change, in fewer calls. */
+    static String brief(FoldRoads x) {
+        StringBuilder text = new StringBuilder();
+        text.append(x.now(0)).append(' ').append(x.now(1)).append(' ').append(x.now(7)).append(' ');
+        for (int w = 0, many = x.count(3); w < many; w++) {
+            text.append(x.walker(w, 0)).append(' ');
+            for (int i = 2; i < 6; i++) {
+                text.append(x.walker(w, i)).append(' ');
+            }
+        }
+        for (int f = 0, many = x.count(1); f < many; f++) {
+            text.append(x.fold(f, 2)).append(' ').append(x.fold(f, 4)).append(' ');
+        }
+        return text.toString();
+    }
+
     /** Everything that the face tells of what is so, for 'changes nothing'. */
     static String all(FoldRoads x) {
         StringBuilder text = new StringBuilder();
@@ -107,17 +123,17 @@ final class Texts {
         for (int i = 0; i < 8; i++) {
             text.append(x.now(i)).append(' ');
         }
-        for (int w = 0; w < x.count(3); w++) {
+        for (int w = 0, many = x.count(3); w < many; w++) {
             for (int i = 0; i < 7; i++) {
                 text.append(x.walker(w, i)).append(' ');
             }
         }
-        for (int f = 0; f < x.count(1); f++) {
+        for (int f = 0, many = x.count(1); f < many; f++) {
             for (int i = 0; i < 6; i++) {
                 text.append(x.fold(f, i)).append(' ');
             }
         }
-        for (int s = 0; s < x.count(0); s++) {
+        for (int s = 0, many = x.count(0); s < many; s++) {
             for (int i = 0; i < 4; i++) {
                 text.append(x.spot(s, i)).append(' ');
             }

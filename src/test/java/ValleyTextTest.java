@@ -207,6 +207,9 @@ public final class ValleyTextTest {
             refused("spot " + word + ";", 1, 5);
             refused(TWO + "thing " + word + " a;", 1, 20);
             refused(TWO + "walker " + word + " a 1;", 1, 21);
+            if (!word.equals("inn")) {
+                refused("spot a " + word + ";", 1, 7);
+            }
         }
         taken("spot to;spot in;spot none;spot breaths;spot innn;", 5);
     }
