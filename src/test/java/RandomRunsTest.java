@@ -163,8 +163,8 @@ public final class RandomRunsTest {
             }
             joined[a][b] = true;
             joined[b][a] = true;
-            all.append("fold s").append(letter(a)).append(" s").append(letter(b)).append(' ').append(1 + below(mostDeep))
-                    .append(' ').append(WORDS[6 + below(3)]).append(" ;").append(blank());
+            all.append("fold s").append(letter(a)).append(" s").append(letter(b)).append(' ');
+            all.append(1 + below(mostDeep)).append(' ').append(WORDS[6 + below(3)]).append(" ;").append(blank());
         }
         for (int t = 0; t < things; t++) {
             all.append("thing t").append(letter(t)).append(" s").append(letter(below(spots))).append(" ;")
@@ -415,7 +415,7 @@ public final class RandomRunsTest {
     }
 
     public static void main(String[] args) throws IllegalAccessException {
-        int runs = args.length > 0 ? Integer.parseInt(args[0]) : 150;
+        int runs = args.length > 0 ? Integer.parseInt(args[0]) : 1000;
         int first = args.length > 1 ? Integer.parseInt(args[1]) : 1;
         Check check = new Check("RandomRunsTest");
         for (int seed = first; seed < first + runs; seed++) {

@@ -199,8 +199,8 @@ public final class SentenceTest {
         refused("((((((((going))))))))", 4, 8);
         refused("(((((((( at a))))))))", 4, 9);
         refused(Texts.times("(not ", 4) + "at a))))", 4, 20);
-        CHECK.due("behind one another", Texts.sentence(five(), "(((not not not not at a))) and ((((not not not lost))))"),
-                16);
+        CHECK.due("behind one another",
+                Texts.sentence(five(), "(((not not not not at a))) and ((((not not not lost))))"), 16);
         refused("((((((going and (not lost)))))))", 4, 21);
         CHECK.due("closed ones count no more",
                 Texts.sentence(five(), "((((((going) and (lost)))))) or not not not not not not not at b"), 17);

@@ -151,6 +151,9 @@ public final class ValleyTextTest {
         refused("breath 0012;", 1, 7);
         refused("breath12;", 1, 0);
         refused("spot\ta;", 1, 4);
+        refused("spot\u000ba;", 1, 4);
+        refused("spot\u001fa;", 1, 4);
+        refused("spot!a;", 1, 4);
         refused("spot a\r;", 1, 6);
         refused("spot a.", 1, 6);
         refused("spot a,", 1, 6);
