@@ -21,6 +21,7 @@ public final class FullTest {
         books();
         sentences();
         images();
+        smallerBehind();
         tape();
         CHECK.finish();
     }
@@ -345,6 +346,33 @@ public final class FullTest {
         CHECK.due("'breath'", x.count(4), 40);
         CHECK.due("a name of each sort", Texts.book(x, "ppppppp learns yyyyyyy;", 0), 0);
         CHECK.due("he goes", x.told(0), 11);
+    }
+
+    /** Of the full one nothing is told behind a smaller one. */
+    private static void smallerBehind() {
+        for (String text : new String[] {Texts.FACE, Twins.VALLEY, "spot a;spot b;walker p b 2;", ""}) {
+            FoldRoads x = full();
+            x.drawn(60, 6);
+            Texts.sentence(x, "number < 5");
+            Texts.valley(x, text);
+            FoldRoads fresh = Texts.of(text);
+            CHECK.due("all of '" + text + "'", Texts.all(x) + reckoned(x), Texts.all(fresh) + reckoned(fresh));
+        }
+    }
+
+    private static String reckoned(FoldRoads x) {
+        StringBuilder all = new StringBuilder();
+        for (int s = 0; s < 8; s++) {
+            all.append(Texts.mean(x, s, 0)).append('/').append(Texts.mean(x, s, 1)).append(' ');
+            all.append(x.way(0, s)).append(' ').append(Texts.came(x, s, 2)).append(' ');
+        }
+        for (int w = 0; w < 5; w++) {
+            all.append(x.reaches(w)).append(' ').append(x.gather(w)).append(' ').append(x.meet(0, w)).append(' ');
+            all.append(Texts.tag(x, w)).append(' ').append(x.odds(w, 5, 6)).append(' ');
+        }
+        all.append(x.inns(0)).append(' ').append(x.innsAt()).append(' ').append(x.inns(9)).append(' ');
+        all.append(x.innsAt()).append(' ').append(x.drawn(60, 5)).append(' ').append(Texts.brief(x));
+        return all.append(x.said(-1)).append(x.undo()).append(x.undo()).toString();
     }
 
     private static void tape() {
