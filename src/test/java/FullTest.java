@@ -350,7 +350,8 @@ public final class FullTest {
 
     /** Of the full one nothing is told behind a smaller one. */
     private static void smallerBehind() {
-        for (String text : new String[] {Texts.FACE, Twins.VALLEY, "spot a;spot b;walker p b 2;", ""}) {
+        for (String text : new String[] {Texts.FACE, Twins.VALLEY, "spot a;spot b;walker p b 2;",
+            "spot a;spot b;fold a b 3 laugh;thing t b;walker p a 1;", ""}) {
             FoldRoads x = full();
             x.drawn(60, 6);
             Texts.sentence(x, "number < 5");

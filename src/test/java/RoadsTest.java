@@ -12,6 +12,7 @@ public final class RoadsTest {
         reaches();
         gather();
         gatherOfLikeOnes();
+        gatherBeyond();
         meet();
         inns();
         came();
@@ -185,6 +186,25 @@ public final class RoadsTest {
         FoldRoads y = Texts.of("spot a;spot b;spot c;fold a b 1 laugh;fold a c 1 laugh;thing t c;thing u b;thing v c;"
                 + "thing z a;walker p a 1;");
         gatherIs(y, 0, 3, 0, 2, 3, 1);
+    }
+
+    /** THINGS beyond, however many there are and wherever else some are. */
+    private static void gatherBeyond() {
+        String apart = "spot a;spot b;spot c;spot d;spot e;spot f;";
+        String folds = "fold a b 1 laugh;fold c d 2 worry;";
+        String[] spots = {"ac", "ca", "acd", "cad", "cda", "cdab", "abcd", "ecaedb", "abcdef", "fedcba", "eeeeee",
+            "dcdcdc"};
+        for (String where : spots) {
+            StringBuilder text = new StringBuilder(where.startsWith("abcdef") ? apart : apart + folds);
+            for (int t = 0; t < where.length(); t++) {
+                text.append("thing ").append((char) ('t' + t)).append(' ').append(where.charAt(t)).append(';');
+            }
+            FoldRoads x = Texts.of(text + "walker p a 1;walker q c 5;walker r e 1;");
+            for (int w = 0; w < 3; w++) {
+                boolean all = w == 2 && where.equals("eeeeee") || w == 1 && where.equals("dcdcdc");
+                CHECK.due("gather(" + w + ") of things at " + where, x.gather(w) >= 0, all);
+            }
+        }
     }
 
     private static void meetIs(FoldRoads x, int w, int y, int want, int spot) {

@@ -20,6 +20,7 @@ public final class SentenceTest {
         joins();
         said();
         stays();
+        behindAnother();
         faults();
         tooMany();
         mostBytes();
@@ -129,6 +130,21 @@ public final class SentenceTest {
         }
         x.valley();
         CHECK.due("none behind a new valley", x.said(-1), -1);
+    }
+
+    /** A SENTENCE takes nothing of the one ahead of it, however long that was. */
+    private static void behindAnother() {
+        String[] texts = {"number = 1 or number = 3 and not going", "going", "not (at a or at b)", "lost",
+            "((housed))", "not not not going and not lost", "tired > 0", "pace < 4 and pace > 1 or knows t or left = 3"};
+        for (String ahead : texts) {
+            for (String text : texts) {
+                FoldRoads x = five();
+                FoldRoads fresh = five();
+                Texts.sentence(x, ahead);
+                CHECK.due("'" + text + "' behind '" + ahead + "'", Texts.sentence(x, text), Texts.sentence(fresh, text));
+                CHECK.due("said '" + text + "' behind '" + ahead + "'", bits(x), bits(fresh));
+            }
+        }
     }
 
     private static void refused(String text, int kind, int place) {

@@ -13,13 +13,13 @@ final class Texts {
     private Texts() {
     }
 
-    /** The tape holds this text behind what it has. */
+    /** The tape holds this text behind what it has; letters came behind it, too, that end() cut off. */
     static void put(FoldRoads x, String text) {
         int before = x.count(5);
         for (int i = 0; i < text.length(); i += 20) {
             int[] five = new int[5];
             for (int k = 0; k < 20; k++) {
-                int c = i + k < text.length() ? text.charAt(i + k) : 0;
+                int c = i + k < text.length() ? text.charAt(i + k) : 'z';
                 five[k / 4] = five[k / 4] << 8 | c;
             }
             x.feed(five[0], five[1], five[2], five[3], five[4]);

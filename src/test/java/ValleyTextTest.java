@@ -7,6 +7,7 @@ public final class ValleyTextTest {
         newObject();
         feed();
         end();
+        behindTheEnd();
         valley();
         oldStays();
         noTokens();
@@ -75,6 +76,29 @@ public final class ValleyTextTest {
         CHECK.due("end 7", x.end(7), true);
         CHECK.due("seven", x.count(5), 7);
         CHECK.due("the first bytes stay", x.valley(), 1);
+    }
+
+    /** What lay behind the end is not read, whatever TOKEN it would go on. */
+    private static void behindTheEnd() {
+        int[] due = {0, -1, -1, -1, -1, -1, -7, -8, -8, -10, -8, -8};
+        int[] kinds = {0, 1, 1, 1, 1, 1, 1, 1, 2, 1, 2, 1};
+        for (int n = 0; n < due.length; n++) {
+            FoldRoads x = new FoldRoads();
+            Texts.put(x, "breath 12345;");
+            x.end(n);
+            CHECK.due("the first " + n + " bytes of 'breath 12345;'", x.valley(), due[n]);
+            CHECK.due("kind of the first " + n + " bytes", x.fault(), kinds[n]);
+        }
+        FoldRoads x = new FoldRoads();
+        Texts.put(x, "spot abcdefghi;");
+        x.end(13);
+        CHECK.due("eight letters", x.valley(), -6);
+        Texts.put(x, "spot abcdefghi;");
+        x.end(12);
+        CHECK.due("seven letters", x.valley(), -13);
+        Texts.put(x, "goingoinggoing or lost");
+        x.end(5);
+        CHECK.due("the word that is left", x.sentence(), 1);
     }
 
     private static void valley() {
