@@ -134,15 +134,16 @@ public final class SentenceTest {
 
     /** A SENTENCE takes nothing of the one ahead of it, however long that was. */
     private static void behindAnother() {
-        String[] texts = {"number = 1 or number = 3 and not going", "going", "not (at a or at b)", "lost",
-            "((housed))", "not not not going and not lost", "tired > 0", "pace < 4 and pace > 1 or knows t or left = 3"};
+        String[] texts = {"number = 1 or number = 3 and not going", "going", "not (at a or at b)", "lost", "((housed))",
+            "not not not going and not lost", "tired > 0", "pace < 4 and pace > 1 or knows t or left = 3"};
         for (String ahead : texts) {
             for (String text : texts) {
                 FoldRoads x = five();
                 FoldRoads fresh = five();
                 Texts.sentence(x, ahead);
-                CHECK.due("'" + text + "' behind '" + ahead + "'", Texts.sentence(x, text), Texts.sentence(fresh, text));
-                CHECK.due("said '" + text + "' behind '" + ahead + "'", bits(x), bits(fresh));
+                String call = "'" + text + "' behind '" + ahead + "'";
+                CHECK.due(call, Texts.sentence(x, text), Texts.sentence(fresh, text));
+                CHECK.due("said " + call, bits(x), bits(fresh));
             }
         }
     }
